@@ -428,6 +428,7 @@ public final class PromisesTest {
     Check.same("winner", x.winner(0), 0);
     refuses(x, "endTurn of an ended duel", UNSUPPORTED, () -> x.endTurn(0));
     endAtLifeOfJustZero();
+    noEndAtLifeOfOne();
     endByLife(kinds(HURT_4_FREE), kinds(HURT_1_FREE), 0);
     endByLife(kinds(HURT_1_FREE), kinds(HURT_4_FREE), 1);
     endByLife(kinds(HURT_1_FREE), kinds(HURT_1_FREE), -1);
@@ -445,6 +446,13 @@ public final class PromisesTest {
     Check.same("owner of the first's card", x.ownerOf(0), 1);
     postingIs(x, 7, 0, 0, 1);
     Check.same("postings", x.postings(), 8);
+  }
+
+  private static void noEndAtLifeOfOne() {
+    SnapshotArena x = started(kinds(HURT_1_FREE, HURT_4_FREE, HURT_4_FREE), kinds(0));
+    playAll(x, 0, 1, 2);
+    Check.sameChar("endTurn at life 1", x.endTurn(0), 'g');
+    lives(x, 10, 1);
   }
 
   private static void endByLife(int[] first, int[] second, int winner) {
@@ -738,6 +746,33 @@ public final class PromisesTest {
     Check.same("empty stack", x.depth(0), 0);
     Check.same("mana at the start", x.mana(0), 1);
     Check.same("no postings", x.postings(), 8);
+    rollBackToTheSecondsTurn();
+  }
+
+  private static void rollBackToTheSecondsTurn() {
+    SnapshotArena x = started(
+        kinds(HEAL_3_FREE, HURT_4_FREE, HURT_1_FREE, HURT_1_FREE),
+        kinds(HURT_1_FREE, HEAL_1_COST_1, HURT_2_COST_1));
+    playAll(x, 0, 1);
+    x.endTurn(0);
+    playAll(x, 4, 5);
+    x.snapshot(0);
+    x.endTurn(0);
+    playAll(x, 2, 3);
+    x.endTurn(0);
+    x.play(0, 6);
+    x.endTurn(0);
+    Check.sameChar("all cards are played", x.duelState(0), 'e');
+    lives(x, 10, 5);
+    x.rollBack(0, 0);
+    lives(x, 13, 6);
+    Check.same("mana of the second", x.mana(0), 0);
+    refuses(x, "the first one has not the turn", UNSUPPORTED, () -> x.play(0, 2));
+    refuses(x, "the second's played card", UNSUPPORTED, () -> x.play(0, 5));
+    refuses(x, "the second's other card", STATE, () -> x.play(0, 6));
+    x.endTurn(0);
+    lives(x, 12, 7);
+    Check.same("the first one's turn", x.play(0, 2), 2);
   }
 
   private static void promise25RollBackEnded() {
@@ -787,7 +822,7 @@ public final class PromisesTest {
     playAll(x, 0, 1, 2);
     Check.sameChar("it ends again", x.endTurn(0), 'e');
     Check.same("winner again", x.winner(0), 0);
-    sell(x, 0, 10, 1);
+    sell(x, 3, 10, 1);
     Check.same("an undone sale is not undone again", x.rollBack(0, 0), 1);
     playAll(x, 0, 1, 2);
     x.endTurn(0);
@@ -1044,9 +1079,18 @@ public final class PromisesTest {
     Check.sameDouble("meanPrice of three", x.meanPrice(), 20.0 / 3.0);
     x.rollBack(0, 0);
     Check.sameDouble("meanPrice of what is not undone", x.meanPrice(), 10.0);
+    SnapshotArena first = withPlayers(2);
+    first.make(0, 0);
+    sell(first, 0, 7, 1);
+    Check.sameDouble("meanPrice of the first offer", first.meanPrice(), 7.0);
   }
 
   private static void promise34IsSound() {
+    SnapshotArena full = withPlayers(6);
+    for (int card = 0; card < 40; card++) {
+      full.make(card % 6, 0);
+    }
+    Check.holds("sound with all players and cards", full.isSound());
     SnapshotArena x = wonByFirst();
     Check.holds("sound when won", x.isSound());
     sell(x, 3, 33, 2);
