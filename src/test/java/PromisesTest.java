@@ -753,6 +753,7 @@ public final class PromisesTest {
     SnapshotArena x = started(
         kinds(HEAL_3_FREE, HURT_4_FREE, HURT_1_FREE, HURT_1_FREE),
         kinds(HURT_1_FREE, HEAL_1_COST_1, HURT_2_COST_1));
+    x.snapshot(0);
     playAll(x, 0, 1);
     x.endTurn(0);
     playAll(x, 4, 5);
@@ -764,7 +765,7 @@ public final class PromisesTest {
     x.endTurn(0);
     Check.sameChar("all cards are played", x.duelState(0), 'e');
     lives(x, 10, 5);
-    x.rollBack(0, 0);
+    x.rollBack(0, 1);
     lives(x, 13, 6);
     Check.same("mana of the second", x.mana(0), 0);
     refuses(x, "the first one has not the turn", UNSUPPORTED, () -> x.play(0, 2));
@@ -773,6 +774,9 @@ public final class PromisesTest {
     x.endTurn(0);
     lives(x, 12, 7);
     Check.same("the first one's turn", x.play(0, 2), 2);
+    x.snapshot(0);
+    x.rollBack(0, 0);
+    lives(x, 10, 10);
   }
 
   private static void promise25RollBackEnded() {
@@ -1001,6 +1005,10 @@ public final class PromisesTest {
     Check.sameChar("a bought offer", x.offerState(0), 'b');
     x.close(0);
     Check.sameChar("a bought offer of a final duel", x.offerState(0), 'b');
+    SnapshotArena undone = wonByFirst();
+    undone.offer(3, 10);
+    undone.rollBack(0, 0);
+    Check.sameChar("an open offer, undone with its duel", undone.offerState(0), 'g');
     refuses(x, "offerState of no offer", INDEX, () -> x.offerState(1));
     refuses(x, "offerState of offer -1", INDEX, () -> x.offerState(-1));
   }
