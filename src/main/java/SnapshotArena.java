@@ -671,6 +671,9 @@ public final class SnapshotArena {
 
     /** Keeps the block that begins at a place of the numbers, and returns where. */
     int keepBlock(int[] numbers, int from) {
+      if (from < 0 || from + BLOCK_LENGTH > numbers.length) {
+        return 0;
+      }
       int free = 0;
       for (int block = 0; block < ROOM; block++) {
         if (uses[block] == 0) {

@@ -52,6 +52,7 @@ final class Look {
     put(text, () -> x.depth(d));
     put(text, () -> x.winner(d));
     for (int s = 0; s < 7; s++) {
+      text.append("\nduel ").append(d).append(" snapshot ").append(s);
       for (int place = 0; place < 25; place++) {
         int snapshot = s;
         int number = place;

@@ -1,28 +1,5 @@
-import java.util.NoSuchElementException;
-
 /** At least one check for each promise of the document: ordinary calls, its edges, wrong calls. */
-public final class PromisesTest {
-  private static final Class<?> INDEX = IndexOutOfBoundsException.class;
-  private static final Class<?> ARGUMENT = IllegalArgumentException.class;
-  private static final Class<?> STATE = IllegalStateException.class;
-  private static final Class<?> UNSUPPORTED = UnsupportedOperationException.class;
-  private static final Class<?> NO_ELEMENT = NoSuchElementException.class;
-  private static final Class<?> ARITHMETIC = ArithmeticException.class;
-
-  // Kinds by what they do: the effect is kind % 4, the power kind / 4 + 1, the cost kind % 3.
-  private static final int HURT_1_FREE = 0;
-  private static final int HEAL_1_COST_1 = 1;
-  private static final int AWAY_COST_2 = 2;
-  private static final int ADD_1_FREE = 3;
-  private static final int HURT_2_COST_1 = 4;
-  private static final int AWAY_FREE = 6;
-  private static final int HURT_3_COST_2 = 8;
-  private static final int HEAL_3_FREE = 9;
-  private static final int HURT_4_FREE = 12;
-  private static final int ADD_4_FREE = 15;
-
-  private static final int[] WRONG_NUMBERS = {-1, Integer.MIN_VALUE, Integer.MAX_VALUE, 1000};
-
+public final class PromisesTest extends Scene {
   public static void main(String[] args) {
     promise1NewObject();
     promise2Player();
@@ -58,87 +35,6 @@ public final class PromisesTest {
     promise33MeanPrice();
     promise34IsSound();
     Check.finish("PromisesTest");
-  }
-
-  // ---- what several promises need
-
-  private static SnapshotArena withPlayers(int count) {
-    SnapshotArena x = new SnapshotArena();
-    for (int i = 0; i < count; i++) {
-      x.player(100);
-    }
-    return x;
-  }
-
-  /** Three players; duel 0 between 0 and 1 is open; the first one's cards have the low numbers. */
-  private static SnapshotArena staked(int[] ofFirst, int[] ofSecond) {
-    SnapshotArena x = withPlayers(3);
-    x.duel(0, 1);
-    for (int kind : ofFirst) {
-      x.stake(0, x.make(0, kind));
-    }
-    for (int kind : ofSecond) {
-      x.stake(0, x.make(1, kind));
-    }
-    return x;
-  }
-
-  private static SnapshotArena started(int[] ofFirst, int[] ofSecond) {
-    SnapshotArena x = staked(ofFirst, ofSecond);
-    x.start(0);
-    return x;
-  }
-
-  private static int[] kinds(int... kinds) {
-    return kinds;
-  }
-
-  /** Player 0 wins in one turn; cards 0 to 2 are this player's, 3 and 4 those of player 1. */
-  private static SnapshotArena wonByFirst() {
-    SnapshotArena x =
-        started(kinds(HURT_4_FREE, HURT_4_FREE, HURT_4_FREE), kinds(HURT_1_FREE, HURT_1_FREE));
-    x.snapshot(0);
-    playAll(x, 0, 1, 2);
-    x.endTurn(0);
-    return x;
-  }
-
-  /** Snapshot 0 is made, then all cards are played and both have the same life. */
-  private static SnapshotArena wonByNobody() {
-    SnapshotArena x = started(kinds(HURT_1_FREE), kinds(HURT_1_FREE));
-    x.snapshot(0);
-    x.play(0, 0);
-    x.endTurn(0);
-    x.play(0, 1);
-    x.endTurn(0);
-    return x;
-  }
-
-  private static void playAll(SnapshotArena x, int... cards) {
-    for (int card : cards) {
-      x.play(0, card);
-    }
-  }
-
-  private static int sell(SnapshotArena x, int card, int price, int buyer) {
-    int offer = x.offer(card, price);
-    x.buy(buyer, offer);
-    return offer;
-  }
-
-  private static void postingIs(SnapshotArena x, int index, int card, int from, int to) {
-    Check.same("card of posting " + index, x.posting(index, 'c'), card);
-    Check.same("giver of posting " + index, x.posting(index, 'f'), from);
-    Check.same("taker of posting " + index, x.posting(index, 't'), to);
-  }
-
-  private static void lives(SnapshotArena x, int first, int second) {
-    Check.same("life of the first", x.life(0, false), first);
-    Check.same("life of the second", x.life(0, true), second);
-  }
-
-  private static void refuses(SnapshotArena x, String what, Class<?> due, Check.Call call) {
-    Check.refuses(x, what, due, call);
   }
 
   // ---- players and cards
